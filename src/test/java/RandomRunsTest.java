@@ -17,9 +17,7 @@ public final class RandomRunsTest {
 
     public static void main(String[] args) {
         for (int seed = 0; seed < 300 && Check.wrongSoFar() < 20; seed++) {
-            RandomRunsTest run = new RandomRunsTest(seed);
-            // Up to 512 calls are promised; compareAll stays out of that count by itself.
-            run.mixedCalls(seed % 2 == 0 ? 400 : 512);
+            new RandomRunsTest(seed).mixedCalls(512);
         }
         for (int seed = 1000; seed < 3000 && Check.wrongSoFar() < 20; seed++) {
             new RandomRunsTest(seed).oneFunction();
