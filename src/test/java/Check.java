@@ -1,5 +1,8 @@
 /** Compares answers with those that are due, and ends a test with exit code 1 if one differed. */
 final class Check {
+    /** A fault can show in a million answers; these are enough to find it. */
+    private static final int MOST_PRINTED = 200;
+
     private static int compared = 0;
     private static int wrong = 0;
 
@@ -9,13 +12,28 @@ final class Check {
     static void due(String what, long got, long want) {
         compared++;
         if (got != want) {
-            wrong++;
-            System.out.println(what + ": answered " + got + ", due is " + want);
+            report(what + ": answered " + got + ", due is " + want);
         }
     }
 
     static void due(String what, boolean got, boolean want) {
         due(what, got ? 1L : 0L, want ? 1L : 0L);
+    }
+
+    static void atMost(String what, long found, long most) {
+        compared++;
+        if (found > most) {
+            report(what + ": " + found + ", at most " + most + " may be");
+        }
+    }
+
+    private static void report(String line) {
+        wrong++;
+        if (wrong <= MOST_PRINTED) {
+            System.out.println(line);
+        } else if (wrong == MOST_PRINTED + 1) {
+            System.out.println("more is only counted");
+        }
     }
 
     static int wrongSoFar() {

@@ -15,6 +15,14 @@ final class Model {
         start(4);
     }
 
+    static Model after(List<Call> calls) {
+        Model model = new Model();
+        for (Call call : calls) {
+            call.answer(model);
+        }
+        return model;
+    }
+
     boolean start(int inputs) {
         if (inputs < 1 || inputs > 8) {
             return false;

@@ -17,7 +17,7 @@ public final class RandomRunsTest {
 
     public static void main(String[] args) {
         for (int seed = 0; seed < 300 && Check.wrongSoFar() < 20; seed++) {
-            new RandomRunsTest(seed).mixedCalls(512);
+            new RandomRunsTest(seed).mixedCalls();
         }
         for (int seed = 1000; seed < 3000 && Check.wrongSoFar() < 20; seed++) {
             new RandomRunsTest(seed).oneFunction();
@@ -25,127 +25,85 @@ public final class RandomRunsTest {
         Check.end();
     }
 
-    private void mixedCalls(int calls) {
-        for (int call = 0; call < calls; call++) {
+    private void compare(Call call) {
+        Check.due(name + call, call.answer(tried), call.answer(model));
+    }
+
+    private void mixedCalls() {
+        for (int call = 0; call < Run.MOST_CALLS; call++) {
             if (random.nextInt(60) == 0) {
-                int n = random.nextInt(12) - 1;
-                Check.due(name + "start(" + n + ")", tried.start(n), model.start(n));
+                compare(Call.start(random.nextInt(12) - 1));
             } else if (random.nextInt(4) == 0) {
-                change();
+                compare(someChange());
             } else {
-                ask();
+                compare(someQuestion());
             }
         }
     }
 
-    private void change() {
-        int cube = random.nextInt(12) == 0 ? strange() : someCube(random.nextInt(4));
-        switch (random.nextInt(5)) {
-            case 0:
-            case 1:
-                Check.due(name + "on(" + cube + ")", tried.on(cube), model.on(cube));
-                break;
-            case 2:
-                Check.due(name + "dc(" + cube + ")", tried.dc(cube), model.dc(cube));
-                break;
-            default:
-                Check.due(name + "minimize()", tried.minimize(), model.minimize());
-                break;
-        }
+    private Call someChange() {
+        int cube = nowAndThenStrange(someCube(random.nextInt(4)));
+        return switch (random.nextInt(5)) {
+            case 0, 1 -> Call.on(cube);
+            case 2 -> Call.dc(cube);
+            default -> Call.minimize();
+        };
     }
 
-    private void ask() {
-        int list = random.nextInt(12) == 0 ? strange() : random.nextInt(4);
-        int other = random.nextInt(12) == 0 ? strange() : random.nextInt(4);
-        int k = random.nextInt(12) == 0 ? strange() : random.nextInt(8);
-        int point = random.nextInt(12) == 0 ? strange() : random.nextInt(1 << model.inputs());
-        int cube = random.nextInt(12) == 0 ? strange() : someCube(random.nextInt(4));
-        switch (random.nextInt(11)) {
-            case 0:
-                Check.due(name + "inputs()", tried.inputs(), model.inputs());
-                break;
-            case 1:
-                Check.due(name + "size(" + list + ")", tried.size(list), model.size(list));
-                break;
-            case 2:
-                Check.due(name + "cube(" + list + ", " + k + ")",
-                    tried.cube(list, k), model.cube(list, k));
-                break;
-            case 3:
-                Check.due(name + "literals(" + list + ")",
-                    tried.literals(list), model.literals(list));
-                break;
-            case 4:
-                Check.due(name + "kind(" + point + ")", tried.kind(point), model.kind(point));
-                break;
-            case 5:
-                Check.due(name + "holds(" + list + ", " + point + ")",
-                    tried.holds(list, point), model.holds(list, point));
-                break;
-            case 6:
-                Check.due(name + "missing(" + list + ")",
-                    tried.missing(list), model.missing(list));
-                break;
-            case 7:
-                Check.due(name + "tautology(" + list + ")",
-                    tried.tautology(list), model.tautology(list));
-                break;
-            case 8:
-                Check.due(name + "same(" + list + ", " + other + ")",
-                    tried.same(list, other), model.same(list, other));
-                break;
-            case 9:
-                Check.due(name + "prime(" + list + ", " + k + ")",
-                    tried.prime(list, k), model.prime(list, k));
-                break;
-            default:
-                Check.due(name + "widen(" + cube + ")", tried.widen(cube), model.widen(cube));
-                break;
-        }
+    private Call someQuestion() {
+        int list = nowAndThenStrange(random.nextInt(4));
+        int other = nowAndThenStrange(random.nextInt(4));
+        int k = nowAndThenStrange(random.nextInt(8));
+        int point = nowAndThenStrange(random.nextInt(1 << model.inputs()));
+        int cube = nowAndThenStrange(someCube(random.nextInt(4)));
+        return switch (random.nextInt(11)) {
+            case 0 -> Call.inputs();
+            case 1 -> Call.size(list);
+            case 2 -> Call.cube(list, k);
+            case 3 -> Call.literals(list);
+            case 4 -> Call.kind(point);
+            case 5 -> Call.holds(list, point);
+            case 6 -> Call.missing(list);
+            case 7 -> Call.tautology(list);
+            case 8 -> Call.same(list, other);
+            case 9 -> Call.prime(list, k);
+            default -> Call.widen(cube);
+        };
     }
 
     /** One function with many cubes, so that the rounds of minimize have something to do. */
     private void oneFunction() {
-        int n = 3 + random.nextInt(6);
-        tried.start(n);
-        model.start(n);
+        compare(Call.start(3 + random.nextInt(6)));
         int freedom = random.nextInt(4);
         int onCubes = 4 + random.nextInt(22);
         int dcCubes = random.nextInt(2) * random.nextInt(26);
         for (int k = 0; k < onCubes; k++) {
-            int cube = someCube(freedom);
-            Check.due(name + "on(" + cube + ")", tried.on(cube), model.on(cube));
+            compare(Call.on(someCube(freedom)));
         }
         for (int k = 0; k < dcCubes; k++) {
-            int cube = someCube(freedom);
-            Check.due(name + "dc(" + cube + ")", tried.dc(cube), model.dc(cube));
+            compare(Call.dc(someCube(freedom)));
         }
-        Check.due(name + "minimize()", tried.minimize(), model.minimize());
-        compareAll();
-        checkCover();
-    }
-
-    private void compareAll() {
+        compare(Call.minimize());
         for (int list = -1; list <= 3; list++) {
-            Check.due(name + "size(" + list + ")", tried.size(list), model.size(list));
+            compare(Call.size(list));
             for (int k = -1; k <= model.size(list); k++) {
-                Check.due(name + "cube(" + list + ", " + k + ")",
-                    tried.cube(list, k), model.cube(list, k));
+                compare(Call.cube(list, k));
             }
         }
+        checkCover();
     }
 
     /** What "Terms" says of the list that is found. */
     private void checkCover() {
         Check.due(name + "same(0, 2)", tried.same(0, 2), true);
-        Check.due(name + "size(2) <= size(0)", tried.size(2) <= tried.size(0), true);
+        Check.atMost(name + "size(2)", tried.size(2), tried.size(0));
         for (int k = 0; k < tried.size(2); k++) {
             Check.due(name + "prime(2, " + k + ")", tried.prime(2, k), true);
         }
     }
 
-    private int strange() {
-        return STRANGE[random.nextInt(STRANGE.length)];
+    private int nowAndThenStrange(int usual) {
+        return random.nextInt(12) == 0 ? STRANGE[random.nextInt(STRANGE.length)] : usual;
     }
 
     /** A cube in which an input is free in freedom of 4 cases; now and then a void one. */
