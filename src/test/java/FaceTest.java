@@ -50,6 +50,9 @@ public final class FaceTest {
         Check.due("the face has also " + found, found.size(), 0);
         Check.due("public and final", CubeMin.class.getModifiers(),
             Modifier.PUBLIC | Modifier.FINAL);
+        // Otherwise the face would have what is inherited as well.
+        Check.due("a subclass of Object", CubeMin.class.getSuperclass() == Object.class, true);
+        Check.due("interfaces", CubeMin.class.getInterfaces().length, 0);
     }
 
     private static void otherMembers() {
@@ -67,9 +70,11 @@ public final class FaceTest {
             Check.due(method + " has at most seven parameters",
                 method.getParameterCount() <= 7, true);
         }
-        for (Constructor<?> constructor : CubeMin.class.getDeclaredConstructors()) {
-            Check.due(constructor + " is the document's", constructor.getParameterCount(), 0);
-        }
+        Constructor<?>[] constructors = CubeMin.class.getDeclaredConstructors();
+        Check.due("constructors", constructors.length, 1);
+        Check.due(constructors[0] + " is the document's", constructors[0].getParameterCount(), 0);
+        Check.due(constructors[0] + " is public",
+            Modifier.isPublic(constructors[0].getModifiers()), true);
         fields(CubeMin.class);
         for (Field field : CubeMin.class.getDeclaredFields()) {
             Check.due(field + " is private", Modifier.isPrivate(field.getModifiers()), true);
@@ -77,6 +82,7 @@ public final class FaceTest {
     }
 
     private static void nestedClasses() {
+        Check.atMost("classes in the file", 1 + CubeMin.class.getDeclaredClasses().length, 12);
         for (Class<?> nested : CubeMin.class.getDeclaredClasses()) {
             int modifiers = nested.getModifiers();
             Check.due(nested + " is static", Modifier.isStatic(modifiers), true);

@@ -99,7 +99,25 @@ public final class RandomRunsTest {
         Check.atMost(name + "size(2)", tried.size(2), tried.size(0));
         for (int k = 0; k < tried.size(2); k++) {
             Check.due(name + "prime(2, " + k + ")", tried.prime(2, k), true);
+            Check.due(name + "cube " + k + " of the COVER can be left out", canBeLeftOut(k), false);
         }
+    }
+
+    /** The model's COVER has been compared already, and its calls are not counted. */
+    private boolean canBeLeftOut(int cube) {
+        Model others = new Model();
+        others.start(model.inputs());
+        for (int k = 0; k < model.size(2); k++) {
+            if (k != cube) {
+                others.on(model.cube(2, k));
+            }
+        }
+        for (int point = 0; point <= Edges.lastPoint(model.inputs()); point++) {
+            if (model.kind(point) == 1 && !others.holds(0, point)) {
+                return false;
+            }
+        }
+        return true;
     }
 
     private int nowAndThenStrange(int usual) {
